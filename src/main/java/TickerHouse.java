@@ -284,8 +284,7 @@ public final class TickerHouse {
             return FULL;
         }
         writeText(firm, price, hundreds, false);
-        queue.setTimes(minute, due, trial.pulsesFromRestTo(text));
-        return queue.append(firm, price, hundreds);
+        return queue.append(minute, due, firm, price, hundreds, trial.pulsesFromRestTo(text));
     }
 
     public int drop() {
@@ -687,6 +686,9 @@ public final class TickerHouse {
 
         /** Pulses of one kind on end: as they are alike, only how many a machine gets matters. */
         void give(int kind, int times) {
+            if (times < 1) {
+                return;
+            }
             countLost(times);
             sender.receive(kind, times);
             for (int i = 0; i < size; i++) {
@@ -991,7 +993,8 @@ public final class TickerHouse {
                 return false;
             }
             if (row.at(at) != BLANK) {
-                return faultHere(row) != NONE;
+                faultHere(row);
+                return false;
             }
             at++;
             keep(who, dollars * 8 + eighth, shares);
@@ -1071,19 +1074,13 @@ public final class TickerHouse {
         int size;
         int changes;
 
-        /** The times of the quote that is appended next. */
-        void setTimes(int comes, int by, int pulses) {
-            if (size < QUEUE_ROOM) {
-                minute[size] = comes;
-                due[size] = by;
-                textPulses[size] = pulses;
-            }
-        }
-
-        int append(int who, int eighths, int shares) {
+        int append(int comes, int by, int who, int eighths, int shares, int pulses) {
             if (size >= QUEUE_ROOM) {
                 return FULL;
             }
+            minute[size] = comes;
+            due[size] = by;
+            textPulses[size] = pulses;
             firm[size] = who;
             price[size] = eighths;
             hundreds[size] = shares;
@@ -1480,7 +1477,7 @@ public final class TickerHouse {
             return point % PER_SIGN / 2;
         }
 
-        /** Lost steps are slips, too, so that more than are not left can't have been lost. */
+        /** Lost steps are slips, too: points with more of them than slips are gone are never asked for. */
         private void findEndable(Grammar grammar) {
             for (int left = 0; left <= MOST_LOST; left++) {
                 int base = left * POINTS;
