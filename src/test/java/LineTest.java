@@ -18,7 +18,9 @@ public final class LineTest {
         unison();
         ribbons();
         wrongSigns();
+        slipsToldTwice();
         fullOfPulses();
+        lastUnison();
         C.end();
     }
 
@@ -128,6 +130,16 @@ public final class LineTest {
         C.due("one more", x.slip(1, 1), FULL);
         C.due("a bad one", x.slip(2, 1), BAD);
         C.due("forty", x.count(2), 40);
+    }
+
+    private static void slipsToldTwice() {
+        TickerHouse x = new TickerHouse();
+        x.machine(0, 0, 0);
+        for (int i = 0; i < 3; i++) {
+            C.due("told " + (i + 1) + " times", x.slip(0, 1), i + 1);
+        }
+        x.bring(5);
+        stands("one step is lost", x, 0, 4, 0, 0, 0, 1, 1);
     }
 
     private static void strength() {
@@ -338,7 +350,27 @@ public final class LineTest {
         C.due("torn", x.wrong(1), 0);
     }
 
-    /** With rows of 1120 pulses: 100001 of them are all that there are. */
+    /** Rows get near the end in few calls. */
+    private static void lastUnison() {
+        TickerHouse x = new TickerHouse();
+        for (int i = 0; i < 40; i++) {
+            x.sign(i < 26 ? 26 - i : 40 - i);
+        }
+        while (x.count(1) < 98800) {
+            x.send();
+        }
+        while (x.count(1) <= 100001 - 130) {
+            x.unison();
+        }
+        while (x.count(1) < 100001 - 65) {
+            x.pulse(1);
+        }
+        C.due("65 are left", x.unison(), 0);
+        C.due("none is left", x.count(1), 100001);
+        C.due("none more", x.unison(), FULL);
+    }
+
+    /** With rows of 1104 pulses: 100001 of them are all that there are. */
     private static void fullOfPulses() {
         TickerHouse x = new TickerHouse();
         x.machine(0, 0, 0);
@@ -360,7 +392,7 @@ public final class LineTest {
         C.due("nothing is changed", x.about(NONE, 0), 1);
         x.clear();
         int left = 100001 - all;
-        while (left > 70) {
+        while (left > 140) {
             left -= x.unison() >= 0 ? 65 : 0;
         }
         while (left > 64) {

@@ -11,6 +11,7 @@ public final class OftenTest {
         leavesAllAsItWas();
         ribbonsThatAreFull();
         howOften();
+        behindTheTwentieth();
         C.end();
     }
 
@@ -107,6 +108,22 @@ public final class OftenTest {
         x.sign(1);
         x.sign(2);
         C.due("two wrong", x.cost(0, 100), 4 + 200);
+    }
+
+    /** Two prints lost, of which the steps of one unison would be no loss. */
+    private static void behindTheTwentieth() {
+        TickerHouse x = new TickerHouse();
+        x.machine(0, 0, 0);
+        x.machine(0, 0, 0);
+        x.slip(0, 43);
+        x.slip(1, 56);
+        for (int i = 0; i < 38; i++) {
+            x.sign(21);
+        }
+        C.due("never: 22 + 37, two signs missing", x.cost(0, 50), 59 + 100);
+        C.due("behind the 20th: 22 + 19, 65, 22 + 17", x.cost(20, 50), 145);
+        C.due("behind the 19th and the 38th", x.cost(19, 50), 210);
+        C.due("k = 20", x.often(50), 20);
     }
 
     private static void howOften() {

@@ -76,6 +76,13 @@ public final class QueueTest {
         C.due("always full", x.minutes(0), 10);
         x.bring(20);
         C.due("always from place 0", x.minutes(0), 10);
+        x.drop();
+        x.firm(1, 1, 1, 1);
+        // Once around with ten prints and two shifts, then twice around with thirteen.
+        x.add(0, 100, 2, 1111 * 8 + 1, 1);
+        x.add(0, 100, 2, 1111 * 8 + 1, 11);
+        C.due("28 + 10 + 2 = 40 by 10", x.minutes(0), 4);
+        C.due("56 + 13 + 2 = 71 by 10", x.minutes(1), 8);
     }
 
     /** Pace 1: a quote of firm 0 at price 0 takes four minutes. */
@@ -117,6 +124,11 @@ public final class QueueTest {
         x.line(1000, 50, 1);
         x.drop();
         plan("dropped", x, 0, 0, 0);
+        x.add(0, 4, 0, 0, 1);
+        plan("one", x, 0, 1, 4, 0);
+        x.add(0, 4, 0, 0, 1);
+        x.drop();
+        plan("dropped again", x, 0, 0, 0);
     }
 
     private static void likeSets() {

@@ -85,6 +85,8 @@ public final class RepairTest {
         repaired("the least digit", x, 1, 2, D, D + 5, 0);
         put(x, 2, 5, D + 9, D + 9, 0);
         repaired("two letters of a code", x, 2, 2, 3, 4, 5, D + 9, D + 9, 0);
+        put(x, 2, D, 2, D, D, 0);
+        repaired("a digit and a blank", x, 2, 2, D, D, 0, 2, D, D, 0);
         put(x, 2, D, D);
         repaired("nothing is lost behind the last", x, NONE);
     }
@@ -105,6 +107,10 @@ public final class RepairTest {
         C.due("the longest quote", x.repair(), 0);
         put(x, 2, D, D, MARK, D + 1, D, 0);
         C.due("10 hundred", x.repair(), 0);
+        put(x, 2, D, D, D, D, D, 0);
+        C.holds("five digits", x.repair() > 0);
+        put(x, 2, D, D, MARK, D + 2, D, D, D, 0);
+        C.holds("four digits of shares", x.repair() > 0);
         put(x, 0, 2, D, D, 0);
         C.holds("a blank ahead is no part of it", x.repair() > 0);
         put(x, 2, D, D, 0, 0);
@@ -183,6 +189,21 @@ public final class RepairTest {
         C.due("41 have no room", x.mend(), FULL);
         C.due("the row stays", x.rowAt(0), D);
         C.due("it is told all the same", x.repairAt(0), 1);
+        x.clear();
+        for (int i = 0; i < 6; i++) {
+            x.sign(D);
+            x.sign(D);
+            x.sign(D);
+            x.sign(0);
+        }
+        for (int i = 0; i < 4; i++) {
+            put4(x);
+        }
+        C.due("40 signs, six codes lost", x.repair(), 6);
+        C.due("46 signs: the last", x.repairAt(45), 0);
+        C.due("the one ahead of it", x.repairAt(44), D);
+        C.due("no more", x.repairAt(46), NONE);
+        C.due("46 have no room", x.mend(), FULL);
     }
 
     private static void put4(TickerHouse x) {

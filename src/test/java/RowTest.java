@@ -160,6 +160,12 @@ public final class RowTest {
         C.due("four digits", x.write(1, 8000, 10), 10);
         rowIs("1000", x, 1, 2, D + 1, D, D, D, MARK, D + 1, D, 0);
         x.clear();
+        C.due("9 hundred", x.write(0, 0, 9), 7);
+        C.due("99 hundred", x.write(0, 0, 99), 8);
+        C.due("100 hundred", x.write(0, 0, 100), 9);
+        rowIs("without 0s ahead", x, 1, D, D, D, MARK, D + 9, 0, 1, D, D, D, MARK, D + 9, D + 9, 0,
+            1, D, D, D, MARK, D + 1, D, D, 0);
+        x.clear();
         C.due("the longest", x.write(2, 79999, 999), 14);
         rowIs("9999 7/8", x, 26, 25, 24, 23, D + 9, D + 9, D + 9, D + 9, EIGHTH + 7, MARK, D + 9, D + 9, D + 9, 0);
         C.due("last", x.last(2), 79999);
@@ -241,6 +247,8 @@ public final class RowTest {
         fault("no code", x, 0, 1, 2);
         put(x, 1, 2, 1, 2, 1, D, D, D, 0);
         fault("five letters", x, 0, 5, 2);
+        put(x, 26, 25, 24, 23, 22, D, D, D, 0);
+        fault("a letter behind a code of four", x, 0, 5, 2);
         put(x, 26, 25, 24);
         fault("no code at the end", x, 0, 3, 2);
         put(x, 1);
