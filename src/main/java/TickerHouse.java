@@ -48,7 +48,6 @@ public final class TickerHouse {
     private final Queue queue = new Queue();
     private final Plan plan = new Plan();
     private final Tape tapeRun = new Tape();
-    private final Grammar grammar = new Grammar();
     private final Repair repaired = new Repair();
     private boolean shortsOn = false;
 
@@ -339,7 +338,7 @@ public final class TickerHouse {
     // ---- repairs, how often
 
     public int repair() {
-        seekRepair();
+        repaired.seek(theRow, firms);
         return repaired.slips;
     }
 
@@ -347,12 +346,12 @@ public final class TickerHouse {
         if (i < 0) {
             return BAD;
         }
-        seekRepair();
+        repaired.seek(theRow, firms);
         return repaired.found.at(i);
     }
 
     public int mend() {
-        seekRepair();
+        repaired.seek(theRow, firms);
         if (repaired.slips == NONE) {
             return NO;
         }
@@ -461,11 +460,6 @@ public final class TickerHouse {
             return 3;
         }
         return hundreds > 9 ? 2 : 1;
-    }
-
-    private void seekRepair() {
-        grammar.learn(firms);
-        repaired.seek(theRow, grammar);
     }
 
     private int costOf(int k, int w) {
@@ -1314,7 +1308,7 @@ public final class TickerHouse {
         final int[] next = new int[STATE_ROOM * SIGNS];
         // Of each state the set of those that come next by any sign, a bit for each.
         final long[] nextSet = new long[STATE_ROOM];
-        int firmsKnown = NONE;
+        private int firmsKnown = NONE;
         private int states;
 
         /** Codes never change, so that only a new firm asks for new states. */
@@ -1431,6 +1425,7 @@ public final class TickerHouse {
 
         final Row found = new Row(REPAIR_ROOM);
         int slips = NONE;
+        private final Grammar grammar = new Grammar();
         // What the sign that is printed next at a point should have been, taken to be of its own
         // wheel and, if it is a blank, of the other one.
         private final int[] meant = new int[POINTS];
@@ -1444,22 +1439,23 @@ public final class TickerHouse {
         private int soughtChanges = NONE, soughtFirms = NONE;
 
         /** Kept as long as the row and the codes are the same: it is asked for sign by sign. */
-        void seek(Row row, Grammar grammar) {
-            if (row.changes == soughtChanges && grammar.firmsKnown == soughtFirms) {
+        void seek(Row row, Firms firms) {
+            if (row.changes == soughtChanges && firms.size == soughtFirms) {
                 return;
             }
             soughtChanges = row.changes;
-            soughtFirms = grammar.firmsKnown;
+            soughtFirms = firms.size;
+            grammar.learn(firms);
             found.makeEmpty();
             slips = NONE;
             if (row.size > 0 && row.size <= ROW_ROOM) {
                 end = row.size * PER_SIGN;
                 findMeant(row);
-                findEndable(grammar);
+                findEndable();
                 slips = fewestSlips();
             }
             if (slips != NONE) {
-                spell(grammar);
+                spell();
             }
         }
 
@@ -1478,20 +1474,20 @@ public final class TickerHouse {
         }
 
         /** Lost steps are slips, too: points with more of them than slips are gone are never asked for. */
-        private void findEndable(Grammar grammar) {
+        private void findEndable() {
             for (int left = 0; left <= MOST_LOST; left++) {
                 int base = left * POINTS;
                 Arrays.fill(endable, base + end, base + end + PER_SIGN, 1L << Grammar.BETWEEN);
                 for (int point = end - 1; point >= 0; point--) {
                     if (lostSteps(point) + left <= MOST_LOST) {
-                        long states = printedHere(grammar, base + point, point);
-                        endable[base + point] = left == 0 ? states : states | lostHere(grammar, base - POINTS + point);
+                        long states = printedHere(base + point, point);
+                        endable[base + point] = left == 0 ? states : states | lostHere(base - POINTS + point);
                     }
                 }
             }
         }
 
-        private long printedHere(Grammar grammar, int at, int point) {
+        private long printedHere(int at, int point) {
             long behind = endable[at + PER_SIGN];
             if (behind == 0) {
                 return 0;
@@ -1501,7 +1497,7 @@ public final class TickerHouse {
         }
 
         /** The point is that of one slip less, so that there a step more can be lost. */
-        private long lostHere(Grammar grammar, int at) {
+        private long lostHere(int at) {
             return endable[at ^ 1] | endable[at + A_STEP] | grammar.aheadByAny(endable[at]);
         }
 
@@ -1515,20 +1511,20 @@ public final class TickerHouse {
         }
 
         private boolean canEnd(int state, int point, int left) {
-            if (left < 0 || left + lostSteps(point) > MOST_LOST || point >= POINTS) {
+            if (left < 0 || left > MOST_LOST || point < 0 || point >= POINTS) {
                 return false;
             }
             return (endable[left * POINTS + point] >>> state & 1L) != 0;
         }
 
         /** The first row sign by sign: all the points are followed at which it may have come to be. */
-        private void spell(Grammar grammar) {
+        private void spell() {
             int state = Grammar.BETWEEN;
             Arrays.fill(now, NONE);
             now[0] = slips;
             for (int turn = 0; turn < REPAIR_ROOM; turn++) {
                 loseStepsAndShifts(state);
-                int sign = isEnded() ? NONE : leastSign(grammar, state);
+                int sign = isEnded() ? NONE : leastSign(state);
                 if (sign == NONE) {
                     return;
                 }
@@ -1566,7 +1562,7 @@ public final class TickerHouse {
             return false;
         }
 
-        private int leastSign(Grammar grammar, int state) {
+        private int leastSign(int state) {
             for (int sign = 0; sign < SIGNS; sign++) {
                 int to = grammar.after(state, sign);
                 if (to != NONE && isNext(sign, to)) {
