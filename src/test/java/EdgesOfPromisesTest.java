@@ -441,6 +441,15 @@ public final class EdgesOfPromisesTest {
         C.due("pulses stay", x.count(1), 8);
         C.due("none again", x.tear(), 0);
         C.due("nothing to cut", x.cut(NONE, 0, 1), BAD);
+        TickerHouse y = withMachines(8);
+        y.bring(6);
+        C.due("the sender's", y.tear(), 1);
+        for (int m = NONE; m < 8; m++) {
+            C.due("all eight", y.about(m, 4), 0);
+        }
+        TickerHouse z = new TickerHouse();
+        z.bring(6);
+        C.due("without machines", z.tear(), 1);
     }
 
     // "A SIGN behind THE ROW: how many. BAD; FULL: 40."
@@ -776,6 +785,9 @@ public final class EdgesOfPromisesTest {
         C.due("done", x.most(0, 1), 1012);
         C.due("all twelve, from 1000 on", x.most(1000, 0), 4095);
         C.due("done", x.most(1000, 1), 1012);
+        x.drop();
+        C.due("of none again", x.most(1000, 0), 0);
+        C.due("of none again", x.most(1000, 1), 1000);
     }
 
     // "The i-th QUOTE of THE ORDER. NONE: not so many. BAD: i below 0, too."
@@ -796,6 +808,7 @@ public final class EdgesOfPromisesTest {
         }
         C.due("not so many", x.orderAt(1000, 12), NONE);
         C.due("not so many", x.orderAt(0, MAX), NONE);
+        C.due("the last", x.orderAt(1000, 11), 11);
         x.drop();
         C.due("none again", x.orderAt(1000, 0), NONE);
     }

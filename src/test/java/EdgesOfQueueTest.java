@@ -7,6 +7,7 @@ public final class EdgesOfQueueTest {
         quotes0To11();
         roundedUp();
         fullFromPlace0();
+        fromPlace0WhateverTheSenderDoes();
         paceAsItIsNow();
         begunNoEarlierThanItComes();
         doneByItsDueMinute();
@@ -16,6 +17,7 @@ public final class EdgesOfQueueTest {
         theLeastAsANumber();
         theFirstByNumbersThatIsDoneThen();
         anOrderThatMustWait();
+        nothingOfWhatWasAskedBefore();
         inOrderOfComing();
         asSoonAsItMayBe();
         toldThoughItIsLate();
@@ -106,6 +108,36 @@ public final class EdgesOfQueueTest {
                     x.pulse(0);
                 }
             }
+        }
+    }
+
+    // "(.. from PLACE 0, LETTERS ..)": nor do the sender's run, its being stopped, or a row that was tried out, matter.
+    private static void fromPlace0WhateverTheSenderDoes() {
+        int[] runs = {0, 27, 30, 55, 56};
+        for (int run : runs) {
+            TickerHouse x = new TickerHouse();
+            x.firm(26, 26, 26, 26);
+            x.line(1000, 50, 1);
+            x.pulse(2);
+            for (int i = 0; i < run; i++) {
+                x.pulse(0);
+            }
+            C.due("an empty row", x.send(), 0);
+            x.add(0, 0, 0, 0, 1);
+            C.due("an empty row", x.cost(0, 0), 0);
+            x.add(0, 0, 0, 0, 1);
+            x.sign(53);
+            x.cost(1, 1);
+            x.add(0, 0, 0, 0, 1);
+            for (int q = 0; q < 3; q++) {
+                C.due("a run of " + run + ", quote " + q + ": 66 by 10", x.minutes(q), 7);
+            }
+            x.line(1000, 50, 6);
+            C.due("a run of " + run + ": 66 by 60", x.minutes(0), 2);
+            C.due("a run of " + run + ": 66 by 60", x.minutes(1), 2);
+            x.line(1000, 50, 7);
+            C.due("a run of " + run + ": 66 by 70", x.minutes(0), 1);
+            C.due("a run of " + run + ": 66 by 70", x.minutes(1), 1);
         }
     }
 
@@ -206,6 +238,11 @@ public final class EdgesOfQueueTest {
         x.add(9, 13, 0, 0, 1);
         // Two can be: 2 and 3 is done at 14, 2 and 4 (or 1 and 4, or 0 and 4) at 13; of these the least number.
         plan("two: done at 13", x, 0, 17, 13, 0, 4);
+        x.drop();
+        x.add(1, 5, 0, 0, 1);
+        x.add(2, 6, 0, 0, 1);
+        x.add(3, 7, 0, 0, 1);
+        plan("the first, as the others are done later", x, 0, 1, 5, 0);
     }
 
     // "then the least as a number"
@@ -270,6 +307,28 @@ public final class EdgesOfQueueTest {
         x.add(11, 15, 0, 0, 1);
         x.add(0, 100, 0, 0, 1);
         plan("the first by numbers would be done at 19", x, 0, 3, 15, 1, 0);
+    }
+
+    // A plan hangs on the queue, the minute and the pace alone, not on plans that were asked for before.
+    private static void nothingOfWhatWasAskedBefore() {
+        TickerHouse x = slow();
+        for (int q = 0; q < 4; q++) {
+            x.add(990, 2000, 0, 0, 1);
+        }
+        plan("late ones", x, 0, 15, 1006, 0, 1, 2, 3);
+        x.drop();
+        plan("dropped, from the same minute", x, 0, 0, 0);
+        x.add(4, 100, 0, 0, 1);
+        x.add(0, 100, 0, 0, 1);
+        x.add(11, 15, 0, 0, 1);
+        plan("early ones", x, 0, 7, 15, 1, 0, 2);
+        x.add(0, 100, 0, 0, 1);
+        // Two can be told ahead of 11, if 0, which comes at 4, is not the first of them; one behind 15.
+        plan("one more", x, 0, 15, 19, 1, 0, 2, 3);
+        x.line(1000, 50, 50);
+        plan("another pace", x, 0, 15, 12, 0, 1, 3, 2);
+        x.line(1000, 50, 1);
+        plan("the first pace", x, 0, 15, 19, 1, 0, 2, 3);
     }
 
     // "TAPE in order of coming (of like ones by numbers)"

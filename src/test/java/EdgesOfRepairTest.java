@@ -18,6 +18,7 @@ public final class EdgesOfRepairTest {
         oneQuoteOrMore();
         noBlanksButAtTheirEnds();
         codesOfFirms();
+        twelveCodesOfFourLetters();
         dollarsOfAWholeRow();
         sharesOfAWholeRow();
         whetherThereIsALastPriceOrNot();
@@ -26,6 +27,7 @@ public final class EdgesOfRepairTest {
         theFewest();
         theFirstAsARow();
         aRowThatEndsIsLess();
+        ofTheRowAsItIs();
         C.end();
     }
 
@@ -255,6 +257,24 @@ public final class EdgesOfRepairTest {
         repaired("a firm came whose code it is", x, 0, A, D, D, 0);
     }
 
+    // "FIRMS 0 .. 11, .. have a CODE of 1 .. 4 letters": as many as can be, none of which begins as another one.
+    private static void twelveCodesOfFourLetters() {
+        TickerHouse x = new TickerHouse();
+        for (int f = 0; f < 12; f++) {
+            C.due("firm " + f, x.firm(f + 1, 26, 25, f + 13), f);
+        }
+        for (int f = 0; f < 12; f++) {
+            put(x, f + 1, 26, 25, f + 13, D + 9, D + 9, 0);
+            repaired("the code of firm " + f, x, 0, f + 1, 26, 25, f + 13, D + 9, D + 9, 0);
+            put(x, 26, f + 13, D + 9, 0);
+            repaired("two letters and a digit are missing", x, 3, f + 1, 26, 25, f + 13, D, D + 9, 0);
+        }
+        put(x, 26, 25, D, D, 0);
+        repaired("the first of all", x, 2, 1, 26, 25, 13, D, D, 0);
+        put(x, 13, 26, 25, 25, D, D, 0);
+        repaired("no thirteenth", x, NONE);
+    }
+
     // "two digits: SHORT; three or four: FULL; perhaps an eighth"
     private static void dollarsOfAWholeRow() {
         TickerHouse x = withA();
@@ -389,5 +409,29 @@ public final class EdgesOfRepairTest {
         put(x, D, D, D, D, A, 0, A, D, D, 0);
         repaired("the one that ends", x, 4, A, D, D, D, D, 0, A, D, D, 0);
         C.due("as many signs as the row has", x.mend(), 10);
+    }
+
+    // "THE REPAIR of THE ROW": of the row and the codes as they are when it is asked for.
+    private static void ofTheRowAsItIs() {
+        TickerHouse x = withA();
+        put(x, D, D, 0);
+        repaired("a row", x, 1, A, D, D, 0);
+        x.clear();
+        repaired("cleared", x, NONE);
+        C.due("cleared: nothing to mend", x.mend(), TickerHouse.NO);
+        put(x, D, D, 0);
+        repaired("the same row again", x, 1, A, D, D, 0);
+        x.sign(0);
+        repaired("a sign more", x, 4, A, D, D, 0, A, D, D, 0);
+        C.due("mended", x.mend(), 8);
+        repaired("mended", x, 0, A, D, D, 0, A, D, D, 0);
+        x.clear();
+        C.due("written", x.write(0, 0, 1), 5);
+        repaired("written", x, 0, A, D, D, D, 0);
+        x.bring(D);
+        x.bring(0);
+        x.clear();
+        C.due("cut", x.cut(NONE, 0, 2), 2);
+        repaired("cut", x, 2, A, D, D, 0);
     }
 }

@@ -562,6 +562,13 @@ public final class EdgesOfTermsTest {
         reads("two are a code", x, 1, NONE, NONE, 1, 2, D, D, D, 0);
         reads("four are a code", x, 1, NONE, NONE, 26, 25, 24, 23, D, D, D, 0);
         reads("the beginning of a code", x, 0, 3, 2, 26, 25, 24, D, D, D, 0);
+        x.firm(26, 25, 24, 0);
+        reads("three are a code", x, 1, NONE, NONE, 26, 25, 24, D, D, D, 0);
+        C.due("the firm", x.readAt(0, 0), 3);
+        reads("two of them are none", x, 0, 2, 2, 26, 25, D, D, D, 0);
+        reads("four are still a code", x, 1, NONE, NONE, 26, 25, 24, 23, D, D, D, 0);
+        C.due("the firm", x.readAt(0, 0), 2);
+        reads("three, and no digit behind them", x, 0, 3, 1, 26, 25, 24, 0, D, D, D, 0);
         reads("a code and a letter", x, 0, 3, 2, 1, 2, 3, D, D, D, 0);
         reads("two codes", x, 0, 2, 2, 1, 1, D, D, D, 0);
         reads("a code of four and a letter", x, 0, 5, 2, 26, 25, 24, 23, 1, D, D, D, 0);
