@@ -115,29 +115,25 @@ public final class EdgesOfQueueTest {
     private static void fromPlace0WhateverTheSenderDoes() {
         int[] runs = {0, 27, 30, 55, 56};
         for (int run : runs) {
-            TickerHouse x = new TickerHouse();
-            x.firm(26, 26, 26, 26);
-            x.line(1000, 50, 1);
+            TickerHouse x = slow();
             x.pulse(2);
             for (int i = 0; i < run; i++) {
                 x.pulse(0);
             }
             C.due("an empty row", x.send(), 0);
-            x.add(0, 0, 0, 0, 1);
+            x.add(0, 0, 1, 1111 * 8 + 1, 1);
             C.due("an empty row", x.cost(0, 0), 0);
-            x.add(0, 0, 0, 0, 1);
+            x.add(0, 0, 1, 1111 * 8 + 1, 2);
             x.sign(53);
             x.cost(1, 1);
-            x.add(0, 0, 0, 0, 1);
-            for (int q = 0; q < 3; q++) {
-                C.due("a run of " + run + ", quote " + q + ": 66 by 10", x.minutes(q), 7);
+            x.add(0, 0, 1, 1111 * 8 + 1, 11);
+            x.send();
+            x.add(0, 0, 1, 1111 * 8 + 1, 1);
+            // 40, 70, 71, 40 pulses: one more or less would show.
+            int[] want = {4, 7, 8, 4};
+            for (int q = 0; q < 4; q++) {
+                C.due("a run of " + run + ", quote " + q, x.minutes(q), want[q]);
             }
-            x.line(1000, 50, 6);
-            C.due("a run of " + run + ": 66 by 60", x.minutes(0), 2);
-            C.due("a run of " + run + ": 66 by 60", x.minutes(1), 2);
-            x.line(1000, 50, 7);
-            C.due("a run of " + run + ": 66 by 70", x.minutes(0), 1);
-            C.due("a run of " + run + ": 66 by 70", x.minutes(1), 1);
         }
     }
 
