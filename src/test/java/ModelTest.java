@@ -28,17 +28,42 @@ public final class ModelTest {
         int runs = args.length > 0 ? Integer.parseInt(args[0]) : 160;
         long first = args.length > 1 ? Long.parseLong(args[1]) : 1;
         for (long seed = first; seed < first + runs; seed++) {
-            new ModelTest(seed).run("run " + seed, WEIGHTS[(int) (seed % WEIGHTS.length)]);
+            new ModelTest(seed).run("run " + seed, WEIGHTS[(int) (seed % WEIGHTS.length)], 400);
+        }
+        // The line's weights, with few pulses left, so that each call that sends meets the end of them.
+        for (long seed = first; seed < first + runs / 4; seed++) {
+            ModelTest late = new ModelTest(seed);
+            late.useUpPulses("late run " + seed);
+            late.run("late run " + seed, WEIGHTS[0], 300);
         }
         CHECK.end();
     }
 
-    private void run(String name, int[] weights) {
+    /** With rows of 1107 pulses or so; what is left then is enough for some calls and not for others. */
+    private void useUpPulses(String name) {
+        for (int i = 0; i < 40; i++) {
+            int sign = 28 - i % 27;
+            CHECK.due(name + ": sign", x.sign(sign), m.sign(sign));
+        }
+        CHECK.due(name + ": machine", x.machine(100, 1, 300), m.machine(100, 1, 300));
+        int left = 1200 + chance.nextInt(2500);
+        while (m.wire.pulses < 100001 - left) {
+            CHECK.due(name + ": send", x.send(), m.send());
+        }
+        int kept = chance.nextInt(12);
+        CHECK.due(name + ": clear", x.clear(), m.clear());
+        for (int i = 0; i < kept; i++) {
+            int sign = chance.nextInt(55);
+            CHECK.due(name + ": sign", x.sign(sign), m.sign(sign));
+        }
+    }
+
+    private void run(String name, int[] weights, int calls) {
         int all = 0;
         for (int w : weights) {
             all += w;
         }
-        for (int call = 0; call < 400; call++) {
+        for (int call = 0; call < calls; call++) {
             int pick = chance.nextInt(all);
             int op = 0;
             while (pick >= weights[op]) {
